@@ -538,22 +538,6 @@ public final class ForgetfulRider {
         }
     }
 
-    // What the code of an END is made of: the low four bits of each number, an argument above them.
-    private static final int SAY_NUMBER = 0;
-    private static final int SAY_STEP = 1;
-    private static final int SAY_PLACE = 2;
-    private static final int SAY_DAY = 3;
-    private static final int ADD = 4;
-    private static final int TAKE = 5;
-    private static final int TIMES = 6;
-    private static final int DIVIDE = 7;
-    private static final int BELOW = 8;
-    private static final int ABOVE = 9;
-    private static final int EVEN = 10;
-    private static final int TURN_ROUND = 11;
-    private static final int SKIP_IF_SO = 12;
-    private static final int SKIP_IF_NOT = 13;
-
     /** Reads a TEXT into a Land; stands always at one TOKEN, the first that was not taken yet. */
     private static final class Reader {
         private static final int WORD = 0;
@@ -590,23 +574,18 @@ public final class ForgetfulRider {
             parts = 0;
             tokenTo = 0;
             advance();
-            return readPlaces() ? NONE : tokenFrom;
-        }
-
-        private boolean readPlaces() {
-            for (place = 0; place < PLACES; place++) {
+            boolean more = true;
+            for (place = 0; place < PLACES && more; place++) {
                 if (!readPlace()) {
-                    return false;
+                    return tokenFrom;
                 }
                 land.size = place + 1;
                 if (kind == FINISH) {
-                    return true;
+                    return NONE;
                 }
-                if (!takeSign(';')) {
-                    return false;
-                }
+                more = takeSign(';');
             }
-            return false;
+            return tokenFrom;
         }
 
         private boolean readPlace() {
@@ -694,7 +673,7 @@ public final class ForgetfulRider {
             }
             for (int i = 0; i < TAPE_ROOM && takeWord("or"); i++) {
                 int skip = codeSize;
-                put(SKIP_IF_SO, 0);
+                put(Teller.SKIP_IF_SO, 0);
                 if (!readBoth(depth)) {
                     return false;
                 }
@@ -709,7 +688,7 @@ public final class ForgetfulRider {
             }
             for (int i = 0; i < TAPE_ROOM && takeWord("and"); i++) {
                 int skip = codeSize;
-                put(SKIP_IF_NOT, 0);
+                put(Teller.SKIP_IF_NOT, 0);
                 if (!readPlain(depth)) {
                     return false;
                 }
@@ -726,7 +705,7 @@ public final class ForgetfulRider {
             }
             boolean fine = isSign('(') ? readInBrackets(depth) : readComparison(depth);
             if (fine && round) {
-                put(TURN_ROUND, 0);
+                put(Teller.TURN_ROUND, 0);
             }
             return fine;
         }
@@ -739,8 +718,8 @@ public final class ForgetfulRider {
             if (!readSum(depth)) {
                 return false;
             }
-            int how = isSign('<') ? BELOW : isSign('>') ? ABOVE : EVEN;
-            if (how == EVEN && !isSign('=')) {
+            int how = isSign('<') ? Teller.BELOW : isSign('>') ? Teller.ABOVE : Teller.EVEN;
+            if (how == Teller.EVEN && !isSign('=')) {
                 return false;
             }
             advance();
@@ -756,7 +735,7 @@ public final class ForgetfulRider {
                 return false;
             }
             for (int i = 0; i < TAPE_ROOM && (isSign('+') || isSign('-')); i++) {
-                int how = isSign('+') ? ADD : TAKE;
+                int how = isSign('+') ? Teller.ADD : Teller.TAKE;
                 advance();
                 if (!readTerm(depth)) {
                     return false;
@@ -771,7 +750,7 @@ public final class ForgetfulRider {
                 return false;
             }
             for (int i = 0; i < TAPE_ROOM && (isSign('*') || isSign('/')); i++) {
-                int how = isSign('*') ? TIMES : DIVIDE;
+                int how = isSign('*') ? Teller.TIMES : Teller.DIVIDE;
                 advance();
                 if (!readPart(depth)) {
                     return false;
@@ -785,8 +764,8 @@ public final class ForgetfulRider {
             if (isSign('[')) {
                 return depth < MOST_BRACKETS && takeSign('[') && readSum(depth + 1) && takeSign(']');
             }
-            int what = kind == NUMBER ? SAY_NUMBER : isWord("step") ? SAY_STEP
-                    : isWord("place") ? SAY_PLACE : isWord("day") ? SAY_DAY : NONE;
+            int what = kind == NUMBER ? Teller.SAY_NUMBER : isWord("step") ? Teller.SAY_STEP
+                    : isWord("place") ? Teller.SAY_PLACE : isWord("day") ? Teller.SAY_DAY : NONE;
             if (what == NONE || value > MOST_NUMBER || parts >= MOST_PARTS) {
                 return false;
             }
@@ -887,8 +866,26 @@ public final class ForgetfulRider {
         }
     }
 
-    /** Tells what an END is worth, by its code. */
+    /**
+     * Tells what an END is worth, by its code: of each number of it the low four bits tell what is
+     * done, those above them what it is done with.
+     */
     private static final class Teller {
+        static final int SAY_NUMBER = 0;
+        static final int SAY_STEP = 1;
+        static final int SAY_PLACE = 2;
+        static final int SAY_DAY = 3;
+        static final int ADD = 4;
+        static final int TAKE = 5;
+        static final int TIMES = 6;
+        static final int DIVIDE = 7;
+        static final int BELOW = 8;
+        static final int ABOVE = 9;
+        static final int EVEN = 10;
+        static final int TURN_ROUND = 11;
+        static final int SKIP_IF_SO = 12;
+        static final int SKIP_IF_NOT = 13;
+
         private static final long BROKEN = Long.MIN_VALUE;
         private static final long MOST = 1000000000L;
 
@@ -989,6 +986,8 @@ public final class ForgetfulRider {
         /** States (STEP times 16 and PLACE) from which he goes on, the latest STEP ahead. */
         final int[] order = new int[STEPS * PLACES];
         int moves = 0;
+        /** TENTHS of the ROADS of each PLACE. */
+        final int[] tenth = new int[PLACES * ROADS];
         private final int[] reached = new int[STEPS];
 
         Chart(Book theBook, Teller theTeller) {
@@ -1003,6 +1002,9 @@ public final class ForgetfulRider {
             Land.copyRow(book.tenth, mix);
             free = 0;
             moves = 0;
+            for (int i = 0; i < tenth.length; i++) {
+                tenth[i] = land.kind[i / ROADS] == TURN ? land.turnTenth[i] : 10;
+            }
             reach(everywhere);
             for (int step = book.term[DAY]; step >= 0; step--) {
                 layStep(step);
@@ -1022,7 +1024,8 @@ public final class ForgetfulRider {
             }
         }
 
-        private int roadsFrom(int place) {
+        /** PLACES (bits). */
+        int roadsFrom(int place) {
             int places = 0;
             for (int road = 0; road < land.roadCount[place]; road++) {
                 places |= 1 << land.roadTo[place * ROADS + road];
@@ -1055,6 +1058,7 @@ public final class ForgetfulRider {
 
         /** What a RIDE from START is worth. */
         long weigh() {
+            shareAtForks();
             for (int i = 0; i < moves; i++) {
                 int state = order[i];
                 int place = state % PLACES;
@@ -1078,21 +1082,28 @@ public final class ForgetfulRider {
 
         private long mean(int place, int row) {
             long sum = 0;
-            for (int road = 0; road < land.roadCount[place]; road++) {
-                sum += tenthsOf(place, road) * table[row + land.roadTo[place * ROADS + road]];
+            int to = place * ROADS + land.roadCount[place];
+            for (int road = place * ROADS; road < to; road++) {
+                if (tenth[road] > 0) {
+                    sum += tenth[road] * table[row + land.roadTo[road]];
+                }
             }
             return sum / 10 - land.toll[place] * UNIT;
         }
 
-        /** The last ROAD has all that is left: at a FORK those of ROADS that are not there, too. */
-        long tenthsOf(int place, int road) {
-            boolean last = road == land.roadCount[place] - 1;
-            if (land.kind[place] == FORK) {
-                int at = look[place] * ROADS;
-                int ahead = road == 0 ? 0 : road == 1 ? mix[at] : mix[at] + mix[at + 1];
-                return last ? 10 - ahead : mix[at + road];
+        /** The last ROAD of a FORK has those of ROADS that are not there, too: all that is left. */
+        void shareAtForks() {
+            for (int place = 0; place < land.size; place++) {
+                if (land.kind[place] == FORK) {
+                    int last = land.roadCount[place] - 1;
+                    int left = 10;
+                    for (int road = 0; road < last; road++) {
+                        tenth[place * ROADS + road] = mix[look[place] * ROADS + road];
+                        left -= tenth[place * ROADS + road];
+                    }
+                    tenth[place * ROADS + last] = left;
+                }
             }
-            return land.kind[place] == TURN ? land.turnTenth[place * ROADS + road] : 10;
         }
 
         int bestRoad(int place, int step) {
@@ -1119,6 +1130,16 @@ public final class ForgetfulRider {
             return looks;
         }
 
+        /** Of each LOOK, how many ROADS the FORK with the most of them has; 0 if it is not USED. */
+        void countRoads(int[] roads) {
+            Arrays.fill(roads, 0);
+            for (int place = 0; place < land.size; place++) {
+                if (land.kind[place] == FORK && look[place] < roads.length) {
+                    roads[look[place]] = Math.max(roads[look[place]], land.roadCount[place]);
+                }
+            }
+        }
+
         boolean goesOn(int place, int step) {
             return place < land.size && land.kind[place] != END && step < book.term[DAY];
         }
@@ -1130,7 +1151,6 @@ public final class ForgetfulRider {
      */
     private static final class Seeker {
         private final Chart chart;
-        /** Of each LOOK, how many ROADS the FORK with the most of them has; 0 if it is not USED. */
         private final int[] roads = new int[LOOKS];
         private final int[] first = new int[LOOKS * ROADS];
         private final int[] forks = new int[PLACES];
@@ -1148,19 +1168,18 @@ public final class ForgetfulRider {
         /** How many PLAIN RULES there are; the BEST is known then. */
         long seekPlain() {
             chart.lay(false);
-            counting = true;
-            return seekPlainAbove(NOTHING);
+            startPlain(true);
+            seek(usedLooks(), NOTHING);
+            return rules(usedLooks());
         }
 
-        private long seekPlainAbove(long floor) {
+        private void startPlain(boolean counted) {
             dice = false;
-            countRoads();
+            counting = counted;
+            chart.countRoads(roads);
             for (int look = 0; look < LOOKS; look++) {
                 choose(look, 0);
             }
-            int looks = usedLooks();
-            seek(looks, floor);
-            return rules(looks);
         }
 
         /** How many RULES with a DIE there are, the BEST is known then; NONE if none is sought. */
@@ -1168,7 +1187,7 @@ public final class ForgetfulRider {
             chart.lay(false);
             dice = true;
             counting = true;
-            countRoads();
+            chart.countRoads(roads);
             int looks = wanted & usedLooks();
             if (Integer.bitCount(looks) > MOST_DIE_LOOKS || rules(looks) > MOST_DIE_RULES) {
                 return NONE;
@@ -1191,16 +1210,6 @@ public final class ForgetfulRider {
 
         void giveFirst(int[] tenth) {
             Land.copyRow(first, tenth);
-        }
-
-        private void countRoads() {
-            Arrays.fill(roads, 0);
-            for (int place = 0; place < chart.land.size; place++) {
-                if (chart.land.kind[place] == FORK) {
-                    int look = chart.look[place];
-                    roads[look] = Math.max(roads[look], chart.land.roadCount[place]);
-                }
-            }
         }
 
         private int usedLooks() {
@@ -1339,8 +1348,8 @@ public final class ForgetfulRider {
             for (int i = 0; i < forkCount; i++) {
                 chart.look[forks[i]] = (signs >> i & 1) == 1 ? SIGN_LOOK : look;
             }
-            counting = false;
-            seekPlainAbove(floor);
+            startPlain(false);
+            seek(usedLooks(), floor);
             return best;
         }
 
@@ -1355,18 +1364,23 @@ public final class ForgetfulRider {
         }
     }
 
-    /** Seeks the BEST with a POCKET, as the Seeker does: what is not chosen yet is left free. */
+    /**
+     * Seeks the BEST with a POCKET. A KEY is a LOOK with a POCKET (LOOK times 2 and 1 for a pebble);
+     * KEYS are chosen for as he comes to them, and are free till then, as the Seeker's LOOKS are.
+     */
     private static final class Pebble {
         private static final int FREE = -1;
+        private static final int KEYS = LOOKS * 2;
 
         private final Chart chart;
         /** As the chart's, with the POCKET behind each state. */
         private final long[] table = new long[STEPS * PLACES * 2];
-        /** Of a LOOK and POCKET: ROAD times 2 and the POCKET then. */
-        private final int[] choice = new int[LOOKS * 2];
+        /** Of each KEY: ROAD times 2 and the POCKET then. */
+        private final int[] choice = new int[KEYS];
         private final int[] roads = new int[LOOKS];
-        private final int[] keys = new int[LOOKS * 2];
-        private int keyCount = 0;
+        /** PLACES (bits) where he may be, by POCKET: at a STEP, and at the next one. */
+        private final int[] here = new int[2];
+        private final int[] then = new int[2];
         private long best = 0;
 
         Pebble(Chart theChart) {
@@ -1379,47 +1393,61 @@ public final class ForgetfulRider {
                 table[state * 2 + 1] = chart.table[state];
             }
             Arrays.fill(choice, FREE);
-            countRoads();
+            chart.countRoads(roads);
             best = NOTHING;
             tryKey(0, weigh());
             return best;
         }
 
-        private void countRoads() {
-            Arrays.fill(roads, 0);
-            keyCount = 0;
-            int ahead = chart.looksAhead();
-            for (int place = 0; place < chart.land.size; place++) {
-                if (chart.land.kind[place] == FORK) {
-                    int look = chart.look[place];
-                    roads[look] = Math.max(roads[look], chart.land.roadCount[place]);
-                }
-            }
-            for (int pocket = 0; pocket < 2; pocket++) {
-                for (int look = 0; look < LOOKS; look++) {
-                    if ((ahead >> look & 1) == 1) {
-                        keys[keyCount] = look * 2 + pocket;
-                        keyCount++;
-                    }
-                }
-            }
-        }
-
-        private void tryKey(int at, long most) {
+        private void tryKey(int depth, long most) {
             if (most <= best) {
                 return;
             }
-            if (at >= keyCount) {
+            int key = keyAhead();
+            if (key == NONE || depth >= KEYS) {
                 best = most;
                 return;
             }
-            int key = keys[at];
             int choices = roads[key / 2] * 2;
             for (int i = 0; i < choices; i++) {
                 choice[key] = i;
-                tryKey(at + 1, weigh());
+                tryKey(depth + 1, weigh());
             }
             choice[key] = FREE;
+        }
+
+        /** The first free KEY that he comes to by what is chosen; NONE if he comes to none. */
+        private int keyAhead() {
+            here[0] = 1 << chart.book.term[START];
+            here[1] = 0;
+            for (int step = 0; step < chart.book.term[DAY]; step++) {
+                then[0] = 0;
+                then[1] = 0;
+                for (int spot = 0; spot < chart.land.size * 2; spot++) {
+                    int place = spot / 2;
+                    int pocket = spot % 2;
+                    if ((here[pocket] >> place & 1) == 0) {
+                        continue;
+                    }
+                    if (chart.land.kind[place] != FORK) {
+                        then[pocket] |= chart.roadsFrom(place);
+                        continue;
+                    }
+                    int key = chart.look[place] * 2 + pocket;
+                    if (choice[key] == FREE) {
+                        return key;
+                    }
+                    then[choice[key] % 2] |= 1 << roadChosen(place, choice[key]);
+                }
+                here[0] = then[0];
+                here[1] = then[1];
+            }
+            return NONE;
+        }
+
+        private int roadChosen(int place, int chosen) {
+            int road = Math.min(chosen / 2, chart.land.roadCount[place] - 1);
+            return chart.land.roadTo[place * ROADS + road];
         }
 
         private long weigh() {
@@ -1437,15 +1465,13 @@ public final class ForgetfulRider {
 
         private long atFork(int place, int row, int pocket) {
             int chosen = choice[chart.look[place] * 2 + pocket];
-            int last = chart.land.roadCount[place] - 1;
             if (chosen != FREE) {
-                int road = Math.min(chosen / 2, last);
-                return table[(row + chart.land.roadTo[place * ROADS + road]) * 2 + chosen % 2];
+                return table[(row + roadChosen(place, chosen)) * 2 + chosen % 2];
             }
             long most = NOTHING;
-            for (int road = 0; road <= last; road++) {
-                int then = (row + chart.land.roadTo[place * ROADS + road]) * 2;
-                most = Math.max(most, Math.max(table[then], table[then + 1]));
+            for (int road = 0; road < chart.land.roadCount[place]; road++) {
+                int state = (row + chart.land.roadTo[place * ROADS + road]) * 2;
+                most = Math.max(most, Math.max(table[state], table[state + 1]));
             }
             return most;
         }
@@ -1453,8 +1479,8 @@ public final class ForgetfulRider {
         private long mean(int place, int row, int pocket) {
             long sum = 0;
             for (int road = 0; road < chart.land.roadCount[place]; road++) {
-                int then = (row + chart.land.roadTo[place * ROADS + road]) * 2 + pocket;
-                sum += chart.tenthsOf(place, road) * table[then];
+                int state = (row + chart.land.roadTo[place * ROADS + road]) * 2 + pocket;
+                sum += chart.tenth[place * ROADS + road] * table[state];
             }
             return sum / 10 - chart.land.toll[place] * UNIT;
         }
@@ -1486,6 +1512,7 @@ public final class ForgetfulRider {
 
         private void start(int wide) {
             width = wide;
+            chart.shareAtForks();
             Arrays.fill(now, 0);
             now[chart.book.term[START] * width] = UNIT;
         }
@@ -1512,10 +1539,10 @@ public final class ForgetfulRider {
 
         private void passRow(int place) {
             for (int road = 0; road < chart.land.roadCount[place]; road++) {
-                long tenths = chart.tenthsOf(place, road);
+                int share = chart.tenth[place * ROADS + road];
                 int to = chart.land.roadTo[place * ROADS + road] * width;
                 for (int i = 0; i < width; i++) {
-                    next[to + i] += now[place * width + i] / 10 * tenths;
+                    next[to + i] += now[place * width + i] / 10 * share;
                 }
             }
         }

@@ -12,7 +12,7 @@ final class Told {
         asked++;
         if (got != want) {
             wrong++;
-            if (wrong <= 50) {
+            if (wrong <= 12) {
                 System.out.println(call + " answered " + got + ", due is " + want);
             }
         }
