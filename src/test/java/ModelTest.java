@@ -34,7 +34,50 @@ public final class ModelTest {
                 paintOne(r, m, x);
             }
         }
+        for (int seed = 0; seed < many; seed++) {
+            pockets(new Random(seed), seed);
+            manyLooks(new Random(seed), seed);
+        }
         Told.finish("ModelTest");
+    }
+
+    /** Long ways through forks that look alike, with few turns: what a pebble is good for. */
+    private static void pockets(Random r, int seed) {
+        int looks = 1 + (seed % 8 == 0 ? 2 : seed % 2);
+        Model m = crowded(r, 5 + r.nextInt(8), looks, seed % 4 == 0 ? 1 : 0);
+        m.day = 3 + r.nextInt(8);
+        ForgetfulRider x = Told.in(m.text());
+        x.terms(1, m.day);
+        Told.due("seed " + seed + " pocket in " + m.text() + " day " + m.day, x.pocket(), m.pocket(0, new int[6][2]));
+    }
+
+    private static void manyLooks(Random r, int seed) {
+        Model m = crowded(r, 6 + r.nextInt(10), 2 + r.nextInt(5), r.nextInt(3));
+        m.day = 4 + r.nextInt(4);
+        ForgetfulRider x = Told.in(m.text());
+        x.terms(1, m.day);
+        askPlain("seed " + seed + " many looks in " + m.text() + " day " + m.day + " ", m, x);
+    }
+
+    /** Mostly forks; every end is worth another number, every step makes it less or more. */
+    private static Model crowded(Random r, int size, int looks, int turns) {
+        Model m = new Model();
+        for (int i = 0; i < size; i++) {
+            Model.Place p = new Model.Place();
+            int dice = r.nextInt(10);
+            p.kind = dice < 3 ? Model.END : i > 0 && turns > 0 && dice == 9 ? Model.TURN : Model.FORK;
+            turns -= p.kind == Model.TURN ? 1 : 0;
+            p.roads = new int[p.kind == Model.FORK ? 1 + r.nextInt(3) : p.kind == Model.TURN ? 2 : 0];
+            p.tenths = new int[] {4, 6};
+            for (int k = 0; k < p.roads.length; k++) {
+                p.roads[k] = r.nextInt(size);
+            }
+            p.look = r.nextInt(looks);
+            p.sum = new Model.Two(new Model.Number(r.nextInt(400)), r.nextBoolean() ? "+" : "-",
+                    new Model.Two(new Model.Word("step"), "*", new Model.Number(r.nextInt(30))));
+            m.places.add(p);
+        }
+        return m;
     }
 
     private static void setTerms(Random r, Model m, ForgetfulRider x) {

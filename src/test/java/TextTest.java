@@ -13,6 +13,7 @@ public final class TextTest {
         faults();
         limits();
         sums();
+        behind();
         changed(args.length > 0 ? Integer.parseInt(args[0]) : 20000);
         Told.finish("TextTest");
     }
@@ -93,6 +94,10 @@ public final class TextTest {
         reads("end 1 if not not not step=1", 1);
         reads("end[1+2]*3-day/place if(1<2 or 2>1)and not(step=place)", 1);
         fault("end 1 if step <= 3", 15);
+        fault("endz 1", 0);
+        fault("enda 1", 0);
+        fault("end z", 4);
+        fault("end 1z", 5);
     }
 
     private static void limits() {
@@ -167,12 +172,43 @@ public final class TextTest {
         pays("5 if not (1/0=1 and 1=0)", 0, 10, 0);
         pays("5 if not (1=0 and 1/0=1)", 0, 10, 5);
         pays("5 if 1=0 and 1=0 or 1=1", 0, 10, 5);
+        pays("5 if not 1=1 and 1=1", 0, 10, 0);
+        pays("5 if not 1=1 or 1=0", 0, 10, 0);
+        pays("5 if not 1=0 or 1/0=1", 0, 10, 5);
+        pays("5 if not (not 1=1)", 0, 10, 5);
+        pays("5 if not (not (not 1=0))", 0, 10, 5);
         pays("5 if 1=1 or 1=0 and 1=0", 0, 10, 5);
         pays("5 if (1=1 or 1=0) and 1=0", 0, 10, 0);
         pays("5 if 1=0 or 1=0 or 1=1 and 1=1", 0, 10, 5);
         pays("1/0 if 1=1", 0, 10, 0);
         pays("5 if 1000*1000*1000*1000 > 1", 0, 10, 0);
         pays("5 if 1000*1000*1000 > 1", 0, 10, 5);
+    }
+
+    /** What end() cut away, or an earlier text left, is not read. */
+    private static void behind() {
+        cutTo("end 12", 5, 1, -1);
+        cutTo("end daylight", 7, 1, -1);
+        cutTo("end 1    ", 6, 1, -1);
+        cutTo("end    1", 5, -6, 5);
+        cutTo("end 1;end 2", 5, 1, -1);
+        cutTo("end 1+2", 6, -6, 6);
+        ForgetfulRider x = new ForgetfulRider();
+        Told.due("blanks", Told.read(x, "     "), -6);
+        Told.due("empty", x.country(), -6);
+        Told.due("fault of an empty tape behind blanks", x.fault(), 0);
+        Told.feed(x, "end 12");
+        Told.due("cut", x.end(5), 5);
+        Told.due("country", x.country(), 1);
+        Told.due("the cut number", x.pays(0, 0), 1);
+    }
+
+    private static void cutTo(String text, int length, int want, int fault) {
+        ForgetfulRider x = new ForgetfulRider();
+        Told.feed(x, text);
+        x.end(length);
+        Told.due("country of " + text + " cut to " + length, x.country(), want);
+        Told.due("fault of " + text + " cut to " + length, x.fault(), fault);
     }
 
     /** Texts of the model, some of their TOKENS changed. */
