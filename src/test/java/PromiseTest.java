@@ -486,6 +486,12 @@ public final class PromiseTest {
         four.paint(3, 2);
         due("three looks", four.pocket(), UNIT);
         due("no fork", Told.in("end 3").pocket(), 3 * UNIT);
+        // on, on, off can't be kept in mind, on whichever of two ways it lies
+        String tooLong = "fork 0 to 4,9;fork 0 to 5,9;fork 0 to 9,6;end 9;end 0";
+        due("behind inns", Told.in("turn 1 by 5,2 by 5;inn 0 to 3;inn 0 to 7;" + tooLong).pocket(), 0);
+        due("behind inns", Told.in("turn 1 by 5,2 by 5;inn 0 to 7;inn 0 to 3;" + tooLong).pocket(), 0);
+        due("behind forks", Told.in("turn 1 by 5,2 by 5;fork 1 to 3;fork 1 to 7;" + tooLong).pocket(), 0);
+        due("behind forks", Told.in("turn 1 by 5,2 by 5;fork 1 to 7;fork 1 to 3;" + tooLong).pocket(), 0);
     }
 
     // Promises 22, 23
