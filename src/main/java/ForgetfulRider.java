@@ -130,7 +130,7 @@ public final class ForgetfulRider {
     }
 
     public int paint(int place, int look) {
-        if (place < 0 || place >= PLACES || !isLook(look)) {
+        if (!isLook(look)) {
             return refuse(BAD_NUMBER);
         }
         if (!book.land.has(place)) {

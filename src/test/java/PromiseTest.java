@@ -232,15 +232,18 @@ public final class PromiseTest {
         due("paint inn", x.paint(4, 0), -3);
         due("paint not there", x.paint(5, 0), -2);
         due("paint not there", x.paint(15, 0), -2);
-        due("paint can't be", x.paint(16, 0), -1);
-        due("paint can't be", x.paint(-1, 0), -1);
+        for (int place : new int[] {16, 17, -1, MOST, LEAST}) {
+            due("paint no such place", x.paint(place, 0), -2);
+            due("its status", x.status(), -2);
+            due("look 6 comes ahead of that", x.paint(place, 6), -1);
+        }
         due("paint look 6", x.paint(0, 6), -1);
         due("paint look -1", x.paint(0, -1), -1);
         due("paint look 6 not there", x.paint(7, 6), -1);
         due("paint look 6 no fork", x.paint(1, 6), -1);
         due("used stays", x.used(), 33);
-        due("refused by -1", x.count(4), 6);
-        due("refused by -2", x.count(5), 2);
+        due("refused by -1", x.count(4), 9);
+        due("refused by -2", x.count(5), 7);
         due("refused by -3", x.count(6), 3);
     }
 
