@@ -886,7 +886,7 @@ public final class ForgetfulRider {
         static final int SKIP_IF_SO = 12;
         static final int SKIP_IF_NOT = 13;
 
-        private static final long BROKEN = Long.MIN_VALUE;
+        private static final long BROKEN = NOTHING;
         private static final long MOST = 1000000000L;
 
         /** Nine levels of brackets, two numbers waiting at each, and one ahead of a comparison. */
