@@ -1,9 +1,20 @@
+import java.io.IOException;
 import java.nio.charset.StandardCharsets;
+import java.nio.file.Files;
+import java.nio.file.Path;
+import java.util.ArrayList;
+import java.util.List;
+import java.util.Set;
+import java.util.TreeSet;
 
 /** What all tests share: answers compared with those that are due, texts put on a tape. */
 final class Told {
     private static int wrong = 0;
     private static int asked = 0;
+    private static String sentence = "";
+    private static int askedAhead = 0;
+    private static final List<String> QUOTED = new ArrayList<>();
+    private static final Set<String> HEADINGS = new TreeSet<>();
 
     private Told() {
     }
@@ -13,9 +24,47 @@ final class Told {
         if (got != want) {
             wrong++;
             if (wrong <= 12) {
-                System.out.println(call + " answered " + got + ", due is " + want);
+                System.out.println(sentence + call + " answered " + got + ", due is " + want);
             }
         }
+    }
+
+    /** What is asked from here on is what these words of the document promise. */
+    static void sentence(String heading, String words) {
+        endSentence();
+        sentence = heading + " \"" + words + "\": ";
+        askedAhead = asked;
+        QUOTED.add(words);
+        HEADINGS.add(heading);
+    }
+
+    /** A sentence for which nothing was asked is not tested. */
+    private static void endSentence() {
+        if (!sentence.isEmpty() && asked == askedAhead) {
+            due("answers asked for", 0, 1);
+        }
+        sentence = "";
+    }
+
+    static void finishSentences(String name, int firstPromise, int lastPromise) {
+        endSentence();
+        for (int promise = firstPromise; promise <= lastPromise; promise++) {
+            due("sentences of promise " + promise, HEADINGS.contains("Promise " + promise) ? 1 : 0, 1);
+        }
+        System.out.println(name + ": " + QUOTED.size() + " sentences");
+        finish(name);
+    }
+
+    /** By hand, if the document has changed: are these still its words? */
+    static void compareWith(String document) throws IOException {
+        String words = oneLine(Files.readString(Path.of(document)));
+        for (String quoted : QUOTED) {
+            due("not in the document: " + quoted, words.contains(oneLine(quoted)) ? 1 : 0, 1);
+        }
+    }
+
+    private static String oneLine(String text) {
+        return text.replaceAll("\\s+", " ");
     }
 
     static void feed(ForgetfulRider x, String text) {
@@ -50,6 +99,31 @@ final class Told {
             due("no country: " + text + " FAULT " + x.fault(), -1, 0);
         }
         return x;
+    }
+
+    /** A text that is a country. */
+    static void reads(String text, int places) {
+        ForgetfulRider x = new ForgetfulRider();
+        due("country of " + text, read(x, text), places);
+        due("fault of " + text, x.fault(), -1);
+        due("count of " + text, x.count(0), places);
+        due("the grammar itself on " + text, Grammar.fault(text), -1);
+    }
+
+    /** A text that is none. */
+    static void fault(String text, int at) {
+        ForgetfulRider x = new ForgetfulRider();
+        due("country of " + text, read(x, text), -6);
+        due("fault of " + text, x.fault(), at);
+        due("count of " + text, x.count(0), 0);
+        due("the grammar itself on " + text, Grammar.fault(text), at);
+    }
+
+    /** What an end, place 1, is worth. */
+    static void pays(String end, int step, int day, long want) {
+        ForgetfulRider x = in("inn 0 to 1;end " + end);
+        x.terms(1, day);
+        due("pays of " + end + " at " + step + " of " + day, x.pays(1, step), want);
     }
 
     static void finish(String name) {
