@@ -31,10 +31,7 @@ public final class EdgesOfRidesTest {
         count();
         status();
         refusedLeavesAll();
-        if (args.length > 0) {
-            Told.compareWith(args[0]);
-        }
-        Told.finishSentences("EdgesOfRidesTest", 26, 36);
+        Told.finishSentences("EdgesOfRidesTest", 26, 36, args);
     }
 
     private static void due(String call, long got, long want) {
@@ -232,6 +229,7 @@ public final class EdgesOfRidesTest {
         due("not late", x.ends(16), 0);
         x.terms(0, 3);
         due("there at once", x.ends(3), UNIT);
+        due("lost at the first place that is not there", Told.in("inn 0 to 2;end 1").ends(17), UNIT);
         due("place 15", Told.in("inn 0 to 15;" + "end 1;".repeat(14) + "end 1").ends(15), UNIT);
 
         Told.sentence("Promise 27", "NOTHING (a PLACE that is no END, no PLACES, too).");

@@ -36,10 +36,7 @@ public final class EdgesOfRulesTest {
         knowing();
         signs();
         signed();
-        if (args.length > 0) {
-            Told.compareWith(args[0]);
-        }
-        Told.finishSentences("EdgesOfRulesTest", 9, 25);
+        Told.finishSentences("EdgesOfRulesTest", 9, 25, args);
     }
 
     private static void due(String call, long got, long want) {
@@ -261,6 +258,9 @@ public final class EdgesOfRulesTest {
         ForgetfulRider x = Told.in(onOnOff);
         x.paint(1, 1);
         due("with another look", x.pocket(), 9 * UNIT);
+        ForgetfulRider y = in("end 0;fork 0 to 2,0;turn 3 by 9,0 by 1;inn 8 to 4;fork 0 to 0,5;end 50", 10, 0, 0);
+        y.terms(0, 1);
+        due("through a turn and an inn", y.pocket(), 378 * UNIT / 10);
     }
 
     private static void knowingAndSigns() {
@@ -443,6 +443,9 @@ public final class EdgesOfRulesTest {
         }
         due("two of those are not too many", many.die(3, 2), 726);
         due("the rule stays", x.tenths(0, 0), 10);
+        ForgetfulRider asked = Told.in("fork 0 to 1,1;end 5");
+        asked.signed(0);
+        due("have it, though signs were asked for ahead", asked.die(1, 1), 11);
     }
 
     private static void cast() {
@@ -521,6 +524,10 @@ public final class EdgesOfRulesTest {
         due("the lowest of two", y.knows(0, 0), 1);
         due("the lowest of two, not beside one another", y.knows(7, 0), 0);
         due("at the last step below day", y.knows(0, 5), 1);
+        ForgetfulRider when = Told.in("fork 0 to 1,2;end 10-step;end step");
+        for (int step = 0; step < 10; step++) {
+            due("by the step at which he would come, from " + step, when.knows(0, step), step + 1 > 5 ? 1 : 0);
+        }
         due("one road, never there", y.knows(6, 3), 0);
         for (int step : new int[] {-1, 6, 7, 10, 11, LEAST, MOST}) {
             due("step " + step, y.knows(0, step), NONE);

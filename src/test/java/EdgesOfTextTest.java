@@ -33,10 +33,7 @@ public final class EdgesOfTextTest {
         terms();
         of();
         pays();
-        if (args.length > 0) {
-            Told.compareWith(args[0]);
-        }
-        Told.finishSentences("EdgesOfTextTest", 1, 8);
+        Told.finishSentences("EdgesOfTextTest", 1, 8, args);
     }
 
     private static void due(String call, long got, long want) {
@@ -71,6 +68,15 @@ public final class EdgesOfTextTest {
         Told.fault("end step step", 9);
         Told.fault("end 1 if 1=1 orr 1=1", 13);
         Told.fault("fork 0 to 1,,2", 12);
+        String[] words = {"fork", "to", "turn", "by", "inn", "end", "if", "or", "and", "not", "step", "place", "day"};
+        String all = "fork 0 to 0 ; turn 0 by 10 ; inn 0 to 0 ; end step if not 1 = place or 1 = day and 1 = 1";
+        Told.reads(all, 4);
+        for (String word : words) {
+            int at = (all + " ").indexOf(word + " ");
+            for (int i = 0; i < word.length(); i++) {
+                Told.fault(all.substring(0, at + i) + "x" + all.substring(at + i + 1), at);
+            }
+        }
         due("a row of digits is one number", Told.in("end 123").pays(0, 0), 123);
         for (int b = 0; b < 256; b++) {
             String text = "end step" + (char) b;
@@ -285,6 +291,10 @@ public final class EdgesOfTextTest {
         Told.pays("5 if 1/0=1/0", 0, 10, 0);
         Told.pays("5 if not 1/0=1", 0, 10, 0);
         Told.pays("5 if not (not 1/0=1)", 0, 10, 0);
+        Told.pays("5 if not 7=7", 0, 10, 0);
+        Told.pays("5 if not 7=8", 0, 10, 5);
+        Told.pays("5 if not (not 7=7)", 0, 10, 5);
+        Told.pays("5 if not (not 7=8)", 0, 10, 0);
         Told.pays("5 if (1/0=1) or 1=1", 0, 10, 0);
 
         Told.sentence("Terms I", "/ is cut towards 0");
@@ -308,6 +318,10 @@ public final class EdgesOfTextTest {
         Told.pays("5 if not (1/0=1 and 1=0)", 0, 10, 0);
         Told.pays("5 if not (1=1 and 1=0 and 1/0=1)", 0, 10, 5);
         Told.pays("5 if 1=0 and 1/0=1 or 1=1", 0, 10, 5);
+        Told.pays("5 if 7=8 or 1/0=1", 0, 10, 0);
+        Told.pays("5 if 8=8 or 1/0=1", 0, 10, 5);
+        Told.pays("5 if not (7=8 and 1/0=1)", 0, 10, 5);
+        Told.pays("5 if not (8=8 and 1/0=1)", 0, 10, 0);
         Told.pays("5 if 1=1 or 1=1 and 1/0=1", 0, 10, 5);
         Told.pays("5 if (1=1 or 1/0=1) and 1=1", 0, 10, 5);
         Told.pays("5 if (1=1 or 1/0=1) and 1/0=1", 0, 10, 0);
@@ -451,6 +465,16 @@ public final class EdgesOfTextTest {
         due("places", x.count(0), 16);
         due("two", Told.read(x, "fork 2 to 1;end 5"), 2);
         due("those before are gone", x.of(2, 0), NONE);
+        Told.read(x, "inn 99 to 0;fork 3 to 0,0,0;turn 0 by 3,0 by 7");
+        due("three", Told.read(x, "fork 0 to 1;end 5;turn 1 by 10"), 3);
+        due("no toll of those before", x.worth(), 50_000_000_000L);
+        due("no roads of those before", x.of(1, 3), 0);
+        due("no tenths of those before", x.of(2, 8), NONE);
+        for (int i = 0; i < 12; i++) {
+            due("as much room for each", Told.read(x, FIFTY), 1);
+            due("as much room for each", x.pays(0, 0), 50);
+        }
+        Told.read(x, "fork 2 to 1;end 5");
         due("no text", Told.read(x, "lake"), -6);
         due("tape, too", x.count(3), 0);
 

@@ -46,21 +46,20 @@ final class Told {
         sentence = "";
     }
 
-    static void finishSentences(String name, int firstPromise, int lastPromise) {
+    /** With a path to the document, by hand, if it has changed: are these still its words? */
+    static void finishSentences(String name, int firstPromise, int lastPromise, String... document) throws IOException {
         endSentence();
         for (int promise = firstPromise; promise <= lastPromise; promise++) {
             due("sentences of promise " + promise, HEADINGS.contains("Promise " + promise) ? 1 : 0, 1);
         }
+        for (String path : document) {
+            String words = oneLine(Files.readString(Path.of(path)));
+            for (String quoted : QUOTED) {
+                due("not in the document: " + quoted, words.contains(oneLine(quoted)) ? 1 : 0, 1);
+            }
+        }
         System.out.println(name + ": " + QUOTED.size() + " sentences");
         finish(name);
-    }
-
-    /** By hand, if the document has changed: are these still its words? */
-    static void compareWith(String document) throws IOException {
-        String words = oneLine(Files.readString(Path.of(document)));
-        for (String quoted : QUOTED) {
-            due("not in the document: " + quoted, words.contains(oneLine(quoted)) ? 1 : 0, 1);
-        }
     }
 
     private static String oneLine(String text) {

@@ -23,17 +23,20 @@ public final class WildTest {
                     newCountry(r, x, y);
                 }
                 long call = r.nextLong();
-                Told.due("seed " + seed + " call " + i, call(x, new Random(call)), call(y, new Random(call)));
+                Told.due("seed " + seed + " call " + i, call(x, call), call(y, call));
             }
         }
         room();
         Told.finish("WildTest");
     }
 
+    static String anyText(Random r) {
+        String text = Model.any(r, 16, 6, 2 + r.nextInt(5)).text();
+        return text.length() > 380 ? text.substring(0, 380) : text;
+    }
+
     private static void newCountry(Random r, ForgetfulRider x, ForgetfulRider y) {
-        Model m = Model.any(r, 16, 6, 2 + r.nextInt(5));
-        String text = m.text();
-        text = text.length() > 380 ? text.substring(0, 380) : text;
+        String text = anyText(r);
         x.end(0);
         y.end(0);
         Told.due("country of " + text, Told.read(x, text), Told.read(y, text));
@@ -43,11 +46,17 @@ public final class WildTest {
         return r.nextInt(3) == 0 ? NUMBERS[r.nextInt(NUMBERS.length)] : r.nextInt(8);
     }
 
-    private static long call(ForgetfulRider x, Random r) {
+    /** Which call, by its place in the list below. */
+    static int which(long call) {
+        return new Random(call ^ 77).nextInt(36);
+    }
+
+    static long call(ForgetfulRider x, long call) {
+        Random r = new Random(call);
         int a = any(r);
         int b = any(r);
         int c = any(r);
-        switch (r.nextInt(36)) {
+        switch (which(call)) {
             case 0: return x.feed(a, b, c, any(r), r.nextInt());
             case 1: return x.end(a);
             case 2: return r.nextInt(4) == 0 ? x.country() : 0;
