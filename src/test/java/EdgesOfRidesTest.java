@@ -31,6 +31,7 @@ public final class EdgesOfRidesTest {
         count();
         status();
         refusedLeavesAll();
+        manyCalls();
         Told.finishSentences("EdgesOfRidesTest", 26, 36, args);
     }
 
@@ -577,6 +578,21 @@ public final class EdgesOfRidesTest {
         x.rule(9, 1, 1);
         x.back(-1);
         due("all is as it was", all(x), all);
+    }
+
+    private static void manyCalls() {
+        Told.sentence("What it is", "An object is used for at most 512 calls after it has been made");
+        ForgetfulRider x = new ForgetfulRider();
+        for (int i = 0; i < 127; i++) {
+            x.feed(0x656e6420, 0x39202020, 0x20202020, 0x20202020, 0x20202020);
+            due("country", x.country(), 1);
+            x.image(i % 2);
+            x.terms(4, i);
+        }
+        due("the 509th call", x.count(4), 127);
+        due("the 510th", x.back(1), 0);
+        due("the 511th", x.ride(1000000), 0);
+        due("the 512th", x.worth(), 9 * UNIT);
     }
 
     /** One number that tells states apart: what can be asked for, put together. */

@@ -512,7 +512,8 @@ public final class EdgesOfTextTest {
     }
 
     private static void terms() {
-        Told.sentence("Promise 6", "A TERM: what it was. -1.");
+        Told.sentence("Terms I", "TERMS: 0 START 0 .. 15 (0 at first), 1 DAY 1 .. 10 (10), "
+                + "2 LATE -999 .. 999 (0), 3 LOST -999 .. 999 (0).");
         int[] first = {0, 10, 0, 0};
         int[] least = {0, 1, -999, -999};
         int[] most = {15, 10, 999, 999};
@@ -527,6 +528,9 @@ public final class EdgesOfTextTest {
             due("far above", x.terms(what, MOST), -1);
             due("stays", x.count(8 + what), most[what]);
         }
+
+        Told.sentence("Promise 6", "A TERM: what it was. -1.");
+        due("it was 999", x.terms(3, 5), 999);
         due("what -1", x.terms(-1, 1), -1);
         due("what 4", x.terms(4, 1), -1);
         due("what least", x.terms(LEAST, 1), -1);
